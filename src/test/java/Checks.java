@@ -40,6 +40,7 @@ final class Checks {
         String before = Picture.of(box);
         due(kind, thrownBy(call), what + " throws");
         due(before, Picture.of(box), "the box after " + what);
+        due(true, box.isConsistent(), "isConsistent() after " + what);
     }
 
     void throwsOnly(Class<?> kind, Call call, String what) {

@@ -44,6 +44,8 @@ final class Picture {
             for (int j = 0; j < box.blocks(); j++) {
                 int to = j;
                 picture.append(box.paths(block, to)).append(' ');
+                add(picture, "", () -> box.routeLength(block, to));
+                add(picture, "", () -> box.routeLengthByPaths(block, to));
                 for (int p = 1; box.paths(block, to) > 0 && p < box.blocks(); p++) {
                     int position = p;
                     add(picture, "", () -> box.routeBlock(block, to, position));

@@ -29,6 +29,13 @@ public final class RouteTest {
         CHECKS.throwsOnly(Checks.INDEX, () -> box.routeLengthByPaths(0, 4), "routeLengthByPaths(0, 4)");
         CHECKS.throwsOnly(Checks.INDEX, () -> box.routeLengthByPaths(-1, 0), "routeLengthByPaths(-1, 0)");
         CHECKS.throwsOnly(Checks.INDEX, () -> box.routeLengthByPaths(4, 4), "routeLengthByPaths(4, 4)");
+        InterlockingBox back = Boxes.circle(4, 5, 6);
+        CHECKS.promise(18);
+        CHECKS.due(10, back.routeLength(1, 0), "routeLength(1, 0)");
+        CHECKS.due(9, back.routeLength(2, 1), "routeLength(2, 1) over block 0");
+        CHECKS.promise(19);
+        CHECKS.due(10, back.routeLengthByPaths(1, 0), "routeLengthByPaths(1, 0)");
+        CHECKS.due(9, back.routeLengthByPaths(2, 1), "routeLengthByPaths(2, 1) over block 0");
         InterlockingBox around = Boxes.circle(9, 9, 9, 9, 9, 9, 9, 9, 9, 9, 9, 9);
         CHECKS.due(99, around.routeLength(0, 11), "routeLength over all blocks");
         CHECKS.due(99, around.routeLengthByPaths(0, 11), "routeLengthByPaths over all blocks");
@@ -84,6 +91,8 @@ public final class RouteTest {
         CHECKS.due(1, box.paths(3, 3), "paths(3, 3)");
         CHECKS.throwsOnly(Checks.INDEX, () -> box.paths(4, 4), "paths(4, 4)");
         CHECKS.throwsOnly(Checks.INDEX, () -> box.paths(0, -1), "paths(0, -1)");
+        CHECKS.throwsOnly(Checks.INDEX, () -> box.paths(-1, 0), "paths(-1, 0)");
+        CHECKS.throwsOnly(Checks.INDEX, () -> box.paths(4, 0), "paths(4, 0)");
         box.addPoint(3, 0, 1);
         CHECKS.due(1, box.paths(3, 2), "paths(3, 2) with a circle beside it");
         CHECKS.due(1, box.paths(3, 3), "paths(3, 3) on a circle");

@@ -22,19 +22,22 @@ public final class UndoTest {
         InterlockingBox box = Boxes.diamond(1, 2, 2, 3);
         box.addBlock(1);
         box.addBlock(1);
+        box.addBlock(1);
         box.addLink(4, 5);
+        box.addTrain(6, 0);
+        box.pass(2);
         box.shut(2);
         box.addTrain(0, 3);
         box.addTrain(4, 5);
-        box.setRoute(1);
+        box.setRoute(2);
         return box;
     }
 
     private static void undoOfEachChange() {
         CHECKS.promise(54);
         Change[] changes = {b -> b.addBlock(3), b -> b.addPoint(3, 0, 4), b -> b.addLink(3, 0), b -> b.shut(3),
-            b -> b.open(2), b -> b.throwPoint(0), b -> b.addTrain(1, 3), b -> b.setRoute(0),
-            b -> b.releaseRoute(1), b -> b.pass(1), b -> b.pass(200), b -> Boxes.run(b, "wait 3;block 1;free 0")};
+            b -> b.open(2), b -> b.throwPoint(0), b -> b.addTrain(1, 3), b -> b.setRoute(1),
+            b -> b.releaseRoute(2), b -> b.pass(1), b -> b.pass(200), b -> Boxes.run(b, "free 2;block 1;wait 3")};
         for (int i = 0; i < changes.length; i++) {
             InterlockingBox box = anyBox();
             String before = Picture.stateOf(box);
@@ -43,10 +46,27 @@ public final class UndoTest {
             CHECKS.due(7, box.undo(), "undo() of change " + i);
             CHECKS.due(before, Picture.stateOf(box), "the state after undo() of change " + i);
         }
+        undoOfAShorterWay();
         InterlockingBox box = anyBox();
         box.undo();
         box.undo();
-        CHECKS.due(1, box.addTrain(4, 5), "addTrain after undo() gives the number again");
+        CHECKS.due(2, box.addTrain(4, 5), "addTrain after undo() gives the number again");
+    }
+
+    private static void undoOfAShorterWay() {
+        InterlockingBox box = Boxes.withBlocks(1, 9, 1, 1, 5);
+        box.addPoint(0, 1, 2);
+        box.addLink(1, 3);
+        box.addLink(3, 4);
+        box.addTrain(0, 4);
+        String before = Picture.stateOf(box);
+        box.addLink(2, 4);
+        CHECKS.due(6, box.routeLength(0, 4), "routeLength(0, 4)");
+        box.undo();
+        CHECKS.due(before, Picture.stateOf(box), "the state after undo() of a link");
+        CHECKS.due(1, box.routeBlock(0, 4, 1), "routeBlock(0, 4, 1)");
+        CHECKS.due(15, box.setRoute(0), "setRoute(0)");
+        CHECKS.due(1, box.addPoint(2, 3, 4), "addPoint of the stem whose link was undone");
     }
 
     private static void eightChanges() {
@@ -118,11 +138,11 @@ public final class UndoTest {
         CHECKS.promise(55);
         InterlockingBox box = anyBox();
         String before = Picture.of(box);
-        CHECKS.due(2, box.save(), "save()");
+        CHECKS.due(3, box.save(), "save()");
         CHECKS.due(before, Picture.of(box), "the box after save()");
         box.pass(1);
         String later = Picture.stateOf(box);
-        CHECKS.due(1, box.save(), "save() again");
+        CHECKS.due(2, box.save(), "save() again");
         box.addBlock(1);
         box.restore();
         CHECKS.due(later, Picture.stateOf(box), "the state that was saved last");
@@ -137,13 +157,13 @@ public final class UndoTest {
         box.open(2);
         box.pass(9);
         box.addTrain(1, 3);
-        CHECKS.due(2, box.restore(), "restore()");
+        CHECKS.due(3, box.restore(), "restore()");
         CHECKS.due(before, Picture.stateOf(box), "the state after restore()");
         CHECKS.throwsAndKeeps(box, Checks.STATE, box::undo, "undo() after restore()");
         box.pass(3);
         box.addBlock(2);
         CHECKS.due(1, box.undo(), "undo() of a change after restore()");
-        CHECKS.due(2, box.restore(), "restore() again");
+        CHECKS.due(3, box.restore(), "restore() again");
         CHECKS.due(before, Picture.stateOf(box), "the state after another restore()");
         CHECKS.throwsAndKeeps(box, Checks.STATE, box::undo, "undo() after another restore()");
         box.pass(1);

@@ -10,6 +10,8 @@ public final class WaitingTest {
         conflict();
         conflictOfPresentRoutes();
         mostWithoutConflict();
+        mostOfTrainsApart();
+        eachWayAlone();
         refusals();
         refusalsOfOthers();
         CHECKS.end();
@@ -170,6 +172,9 @@ public final class WaitingTest {
         most(3, box, "where the first conflicts with all");
         box.addTrain(4, 0);
         most(4, box, "with a train without a route");
+    }
+
+    private static void mostOfTrainsApart() {
         InterlockingBox apart = Boxes.withBlocks(1, 1, 1, 1, 1, 1, 1, 1);
         for (int i = 0; i < 8; i++) {
             apart.addTrain(i, (i + 1) % 8);
@@ -179,6 +184,28 @@ public final class WaitingTest {
         apart.addLink(6, 7);
         apart.addLink(5, 6);
         most(8, apart, "with links that lead elsewhere");
+    }
+
+    /** No way of counting may rest on what another one has looked at. */
+    private static void eachWayAlone() {
+        InterlockingBox box = Boxes.circle(1, 1, 1, 1);
+        box.addTrain(0, 1);
+        box.addTrain(1, 0);
+        CHECKS.promise(35);
+        CHECKS.due(2, box.deadlockedByPairs(), "deadlockedByPairs()");
+        CHECKS.promise(38);
+        CHECKS.due(2, box.mostWithoutConflictBySets(), "mostWithoutConflictBySets()");
+        box.addTrain(2, 3);
+        CHECKS.promise(34);
+        CHECKS.due(2, box.deadlocked(), "deadlocked()");
+        CHECKS.promise(37);
+        CHECKS.due(2, box.mostWithoutConflict(), "mostWithoutConflict()");
+        box.undo();
+        box.undo();
+        CHECKS.promise(38);
+        CHECKS.due(1, box.mostWithoutConflictBySets(), "mostWithoutConflictBySets()");
+        CHECKS.promise(35);
+        CHECKS.due(0, box.deadlockedByPairs(), "deadlockedByPairs()");
     }
 
     private static void refusals() {
@@ -199,6 +226,14 @@ public final class WaitingTest {
         box.setRoute(2);
         CHECKS.throwsOnly(Checks.REFUSED, () -> box.setRoute(0), "setRoute(0)");
         refused(box, 'o', 1, "at the first of several blocks");
+        InterlockingBox behind = Boxes.circle(1, 1, 1, 1);
+        behind.addTrain(3, 2);
+        behind.shut(1);
+        CHECKS.throwsOnly(Checks.REFUSED, () -> behind.setRoute(0), "setRoute(0)");
+        refused(behind, 's', 1, "behind block 0");
+        behind.addTrain(0, 1);
+        CHECKS.throwsOnly(Checks.REFUSED, () -> behind.setRoute(0), "setRoute(0)");
+        refused(behind, 'o', 0, "at block 0");
         InterlockingBox reserved = Boxes.row(1, 1, 1);
         reserved.addTrain(1, 2);
         reserved.setRoute(0);
