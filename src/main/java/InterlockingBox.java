@@ -1426,7 +1426,7 @@ public final class InterlockingBox {
             stop = start;
             for (int i = 0; i < COMMANDS.length; i++) {
                 int endOfForm = match(COMMANDS[i].form, start);
-                if (endOfForm > end) {
+                if (endOfForm > end && count < MOST_COMMANDS) {
                     end = endOfForm;
                     commands[count] = COMMANDS[i];
                 }

@@ -1,3 +1,5 @@
+import java.lang.reflect.Field;
+
 /** Promises 41 to 46: the sums, and promises 47 to 49: the output line. */
 public final class SumTest {
     private static final Checks CHECKS = new Checks();
@@ -7,6 +9,7 @@ public final class SumTest {
         delays();
         usedShare();
         isConsistent();
+        damagedStates();
         writeBlocks();
         writeTrain();
         charAt();
@@ -90,6 +93,44 @@ public final class SumTest {
         }
         box.undo();
         CHECKS.due(true, box.isConsistent(), "isConsistent() after undo");
+    }
+
+    /** No calls lead to a damaged state, so that it is made behind the box's back. */
+    private static void damagedStates() {
+        CHECKS.promise(46);
+        String[] wholes = {"waiting", "come", "gone", "present", "time", "line.shut", "line.stemsToRight", "line.links"};
+        int[] values = {0, 9, 7, 1, 50, 1 << 2, 1 << 3, 5};
+        for (int i = 0; i < wholes.length; i++) {
+            InterlockingBox box = Boxes.diamond(2, 3, 1, 4);
+            box.addTrain(0, 2);
+            box.addTrain(3, 0);
+            box.addTrain(1, 3);
+            box.setRoute(0);
+            CHECKS.due(true, box.isConsistent(), "isConsistent()");
+            damage(box, wholes[i], values[i]);
+            CHECKS.due(false, box.isConsistent(), "isConsistent() with another " + wholes[i]);
+        }
+    }
+
+    private static void damage(Object of, String path, int value) {
+        try {
+            Object owner = valueIn(of, "now");
+            String[] names = path.split("\\.");
+            for (int i = 0; i + 1 < names.length; i++) {
+                owner = valueIn(owner, names[i]);
+            }
+            Field field = owner.getClass().getDeclaredField(names[names.length - 1]);
+            field.setAccessible(true);
+            field.setInt(owner, value);
+        } catch (ReflectiveOperationException e) {
+            throw new IllegalStateException(e);
+        }
+    }
+
+    private static Object valueIn(Object owner, String name) throws ReflectiveOperationException {
+        Field field = owner.getClass().getDeclaredField(name);
+        field.setAccessible(true);
+        return field.get(owner);
     }
 
     private static void writeBlocks() {
