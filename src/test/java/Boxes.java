@@ -12,6 +12,26 @@ final class Boxes {
         return box;
     }
 
+    /** A box with so many blocks of length 1. */
+    static InterlockingBox ones(int blocks) {
+        int[] lengths = new int[blocks];
+        java.util.Arrays.fill(lengths, 1);
+        return withBlocks(lengths);
+    }
+
+    /**
+     * Fills all that a call could spoil besides the state and its past: the saved state, the output line, the records
+     * of errors, and the program buffer, which then holds "wai".
+     */
+    static InterlockingBox laden(InterlockingBox box) {
+        box.save();
+        errorIn(box, "wait;x");
+        errorIn(box, "wait;set 999");
+        box.writeBlocks();
+        type(box, "wai");
+        return box;
+    }
+
     /** Blocks in a row, each one linked to the one after it. */
     static InterlockingBox row(int... lengths) {
         InterlockingBox box = withBlocks(lengths);

@@ -1,3 +1,4 @@
+import java.util.Arrays;
 import java.util.NoSuchElementException;
 import java.util.Objects;
 
@@ -12,6 +13,21 @@ final class Checks {
 
     interface Call {
         Object answer();
+    }
+
+    /** Makes a box by the same calls each time. */
+    interface Recipe {
+        InterlockingBox make();
+    }
+
+    /** A call of a box that is made anew. */
+    interface Use {
+        Object of(InterlockingBox box);
+    }
+
+    /** A call with a number, such as the one of a block. */
+    interface NumberedUse {
+        Object of(InterlockingBox box, int number);
     }
 
     private int right = 0;
@@ -45,6 +61,55 @@ final class Checks {
 
     void throwsOnly(Class<?> kind, Call call, String what) {
         due(kind, thrownBy(call), what + " throws");
+    }
+
+    /**
+     * The call must throw exactly this exception on a box that is made by the recipe, and leave all its aspects as they
+     * were, but for those that are named as changed.
+     */
+    void refuses(Recipe recipe, Class<?> kind, Use use, String what, Aspect... changed) {
+        InterlockingBox refusing = recipe.make();
+        due(kind, thrownBy(() -> use.of(refusing)), what + " throws");
+        for (Probe probe : Probe.ALL) {
+            if (!Arrays.asList(changed).contains(probe.aspect)) {
+                InterlockingBox asked = recipe.make();
+                thrownBy(() -> use.of(asked));
+                due(probe.answers(recipe.make()), probe.answers(asked), probe.name + " after " + what);
+            }
+        }
+    }
+
+    /** The call is refused with each of the numbers. */
+    void refusesEach(Recipe recipe, Class<?> kind, int[] numbers, NumberedUse use, String what) {
+        for (int number : numbers) {
+            refuses(recipe, kind, box -> use.of(box, number), what + " with " + number);
+        }
+    }
+
+    /**
+     * Numbers that do not belong to a row that begins with 0: those just outside of it, those far outside, and those
+     * that would come inside if they were cut down to fewer bits.
+     */
+    static int[] outside(int size) {
+        return new int[] {-1, size, -32, 32, 64, 256, -256, 65536, 1 << 30, Integer.MAX_VALUE, Integer.MIN_VALUE};
+    }
+
+    /** The call must answer, whatever it be, and throw nothing. */
+    void answers(Call call, String what) {
+        due(false, outcome(call) instanceof Class, what + " throws:");
+    }
+
+    /** The answer, or the class of the exception that is thrown instead. */
+    static Object outcome(Call call) {
+        try {
+            return call.answer();
+        } catch (RuntimeException e) {
+            return e.getClass();
+        }
+    }
+
+    int answers() {
+        return right + wrong;
     }
 
     static Object thrownBy(Call call) {
