@@ -11,6 +11,7 @@ public final class UndoTest {
         eightChanges();
         failuresAreNoChanges();
         savesAreNoChanges();
+        savedStateStays();
         whatIsNotUndone();
         save();
         restore();
@@ -112,6 +113,22 @@ public final class UndoTest {
         box.type('x');
         CHECKS.due(1, box.undo(), "undo() after save()");
         CHECKS.due(1, box.blocks(), "blocks()");
+    }
+
+    /** What is undone is the state, not the state that was saved from it. */
+    private static void savedStateStays() {
+        CHECKS.promise(56);
+        InterlockingBox box = Boxes.withBlocks(1);
+        box.save();
+        box.addBlock(2);
+        box.addBlock(3);
+        box.save();
+        CHECKS.due(2, box.undo(), "undo() of a change that was saved");
+        CHECKS.due(1, box.undo(), "undo() of a change since the first save()");
+        CHECKS.due(0, box.undo(), "undo() of a change before both");
+        CHECKS.due(0, box.restore(), "restore() of a state without trains");
+        CHECKS.due(3, box.blocks(), "blocks() of the state that was saved last");
+        CHECKS.throwsOnly(Checks.STATE, box::undo, "undo() after restore()");
     }
 
     private static void whatIsNotUndone() {
